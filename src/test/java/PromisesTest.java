@@ -1,6 +1,5 @@
 /** For each promise: ordinary inputs, the edges that the document names, and wrong inputs. */
 public final class PromisesTest {
-    private static final int[] NO_REPLICAS = {-1, 3, 4, 32, 256, Integer.MIN_VALUE, Integer.MAX_VALUE};
     private static final Checks c = new Checks();
 
     public static void main(String[] args) {
@@ -252,7 +251,7 @@ public final class PromisesTest {
     private static void promises2To6WrongReplica() {
         CausalObjects x = scene();
         int[] before = picture(x);
-        for (int wrong : NO_REPLICAS) {
+        for (int wrong : Inputs.NO_REPLICAS) {
             for (int sort = 0; sort < 5; sort++) {
                 c.due("sort " + sort + " at " + wrong, make(x, sort, wrong, 1), -1);
             }
@@ -328,7 +327,7 @@ public final class PromisesTest {
     private static void promise7DeliverWrongReplica() {
         CausalObjects x = scene();
         int[] before = picture(x);
-        for (int wrong : NO_REPLICAS) {
+        for (int wrong : Inputs.NO_REPLICAS) {
             c.due("deliver from " + wrong, x.deliver(wrong, 0), -1);
             c.due("deliver to " + wrong, x.deliver(0, wrong), -1);
             c.due("deliver both " + wrong, x.deliver(wrong, wrong), -1);
@@ -368,7 +367,7 @@ public final class PromisesTest {
     private static void promise8SyncWrongReplica() {
         CausalObjects x = scene();
         int[] before = picture(x);
-        for (int wrong : NO_REPLICAS) {
+        for (int wrong : Inputs.NO_REPLICAS) {
             c.due("sync from " + wrong, x.sync(wrong, 0), -1);
             c.due("sync to " + wrong, x.sync(0, wrong), -1);
             c.due("sync both " + wrong, x.sync(wrong, wrong), -1);
@@ -385,7 +384,7 @@ public final class PromisesTest {
         c.due("has: masked below", x.has(0, -4), 1);
         c.due("has: masked to another", x.has(0, 13), 0);
         c.due("has: elsewhere", x.has(1, 4), 0);
-        for (int wrong : NO_REPLICAS) {
+        for (int wrong : Inputs.NO_REPLICAS) {
             c.due("has at " + wrong, x.has(wrong, 4), -1);
         }
     }
@@ -400,7 +399,7 @@ public final class PromisesTest {
         x.sync(2, 1);
         c.due("values: equal ones all", x.values(1), 3);
         c.due("values: one at 0", x.values(0), 1);
-        for (int wrong : NO_REPLICAS) {
+        for (int wrong : Inputs.NO_REPLICAS) {
             c.due("values at " + wrong, x.values(wrong), -1);
         }
     }
@@ -436,7 +435,7 @@ public final class PromisesTest {
         for (int place : noPlaces) {
             c.due("value at place " + place, x.value(0, place), 0);
         }
-        for (int wrong : NO_REPLICAS) {
+        for (int wrong : Inputs.NO_REPLICAS) {
             c.due("value at replica " + wrong, x.value(wrong, 0), 0);
         }
         c.due("value of an empty register", x.value(2, 0), 0);
@@ -452,7 +451,7 @@ public final class PromisesTest {
         x.count(1, Integer.MIN_VALUE);
         x.count(1, Integer.MIN_VALUE);
         c.due("total wraps to 0", x.total(1), 0);
-        for (int wrong : NO_REPLICAS) {
+        for (int wrong : Inputs.NO_REPLICAS) {
             c.due("total at " + wrong, x.total(wrong), 0);
         }
     }
@@ -472,7 +471,7 @@ public final class PromisesTest {
                 c.due("known(" + replica + ", " + origin + ")", x.known(replica, origin), want[replica][origin]);
             }
         }
-        for (int wrong : NO_REPLICAS) {
+        for (int wrong : Inputs.NO_REPLICAS) {
             c.due("known at " + wrong, x.known(wrong, 0), -1);
             c.due("known of " + wrong, x.known(0, wrong), -1);
             c.due("known both " + wrong, x.known(wrong, wrong), -1);
