@@ -32,6 +32,7 @@ public final class PromisesTest {
         promise13Known();
         promises9To13ChangeNothing();
         lastChangeCounts();
+        termsShownDependsOnWhatIsKnown();
         c.end();
     }
 
@@ -505,6 +506,45 @@ public final class PromisesTest {
         c.due("the 48th came along", x.deliver(1, 2), -1);
         c.due("the 48th came along: total", x.total(2), 7);
         c.due("all known", x.known(2, 0) + x.known(2, 1), 48);
+    }
+
+    /** In whatever order replica 2 gets to know the same changes, it shows the same. */
+    private static void termsShownDependsOnWhatIsKnown() {
+        int ways = 1 << 7;
+        for (int way = 0; way < ways; way++) {
+            CausalObjects x = twoHistories();
+            for (int n = 0; n < 7; n++) {
+                x.deliver(way >> n & 1, 2);
+            }
+            for (int n = 0; n < 7; n++) {
+                x.deliver(0, 2);
+                x.deliver(1, 2);
+            }
+            c.due("any order: known of 0", x.known(2, 0), 5);
+            c.due("any order: known of 1", x.known(2, 1), 3);
+            c.due("any order: the add that no remove and no reset had seen", x.has(2, 1), 1);
+            c.due("any order: the assign that the reset had not seen", x.values(2), 1);
+            c.due("any order: its value", x.value(2, 0), 4);
+            c.due("any order: the count that the reset had not seen", x.total(2), 7);
+            CausalObjects y = twoHistories();
+            y.sync(way & 1, 2);
+            y.sync(~way & 1, 2);
+            samePicture("one by one or all at once", picture(x), picture(y));
+        }
+    }
+
+    private static CausalObjects twoHistories() {
+        CausalObjects x = new CausalObjects();
+        x.add(0, 1);
+        x.count(0, 5);
+        x.sync(0, 1);
+        x.remove(1, 1);
+        x.assign(1, 9);
+        x.reset(1);
+        x.add(0, 1);
+        x.assign(0, 4);
+        x.count(0, 7);
+        return x;
     }
 
     /** Six changes, of all sorts, that are known here and there. */
